@@ -72,15 +72,12 @@ public final class SewnAhead {
         if (!isRow(r)) {
             return BAD;
         }
-        Row row = rows[r];
-        if (row.isMissing()) {
-            return refuse(NOTHING);
+        int refused = refusePlace(rows[r], i);
+        if (refused != GOOD) {
+            return refused;
         }
-        if (!row.has(i)) {
-            return refuse(BEYOND);
-        }
-        told = row.places[i];
-        row.places[i] = v;
+        told = rows[r].places[i];
+        rows[r].places[i] = v;
         return 1;
     }
 
@@ -88,14 +85,11 @@ public final class SewnAhead {
         if (!isRow(r)) {
             return BAD;
         }
-        Row row = rows[r];
-        if (row.isMissing()) {
-            return refuse(NOTHING);
+        int refused = refusePlace(rows[r], i);
+        if (refused != GOOD) {
+            return refused;
         }
-        if (!row.has(i)) {
-            return refuse(BEYOND);
-        }
-        told = row.places[i];
+        told = rows[r].places[i];
         return 1;
     }
 
@@ -161,15 +155,12 @@ public final class SewnAhead {
         if (!isText(t)) {
             return BAD;
         }
-        Row text = texts[t];
-        if (text.isMissing()) {
-            return refuse(NOTHING);
+        int refused = refusePlace(texts[t], i);
+        if (refused != GOOD) {
+            return refused;
         }
-        if (!text.has(i)) {
-            return refuse(BEYOND);
-        }
-        int before = text.places[i];
-        text.places[i] = (byte) v;
+        int before = texts[t].places[i];
+        texts[t].places[i] = (byte) v;
         return before + PUT_MORE;
     }
 
@@ -640,6 +631,17 @@ public final class SewnAhead {
             latestFound = f;
         }
         return FINDING;
+    }
+
+    /** What refuses a place of a ROW or a TEXT; GOOD: nothing does. */
+    private int refusePlace(Row row, int i) {
+        if (row.isMissing()) {
+            return refuse(NOTHING);
+        }
+        if (!row.has(i)) {
+            return refuse(BEYOND);
+        }
+        return GOOD;
     }
 
     /** What refuses a ROW that is to tell what HAPPENED in each YEAR; GOOD: nothing does. */

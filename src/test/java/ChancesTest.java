@@ -80,7 +80,8 @@ public final class ChancesTest {
 
     /** The same STITCHES made one by one. */
     private static void lotsAsStitches() {
-        String[] cloths = {"y--", "y0-2 b01 k22", "y01234 g01 g12 k34 b20", "y-3-1 s01 l34", "y0---- l01 e02 b12 k00 k11"};
+        String[] cloths = {"y--", "y0-2 b01 k22", "y01234 g01 g12 k34 b20", "y-3-1 s01 l34",
+            "y0---- l01 e02 b12 k00 k11"};
         int[] seeds = {1, 2, 77, 31337, 1000000007, MAX - 1};
         for (String cloth : cloths) {
             for (int seed : seeds) {

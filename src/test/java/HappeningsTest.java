@@ -121,6 +121,7 @@ public final class HappeningsTest {
         z.unpick(1);
         due.is("a HOLE", z.safe(1), 25);
         due.is("a HOLE behind", z.safe(0), 25);
+        due.is("a SCENE that breaks behind none but the first", Due.cloth("y--- b04").safe(1), 31 - 1 - 16);
     }
 
     private static void noYears() {

@@ -11,6 +11,7 @@ public final class StitchesTest {
         full();
         undo();
         keep();
+        keptStitches();
         keptEnds();
         noYears();
         due.end();
@@ -137,6 +138,31 @@ public final class StitchesTest {
             due.refuses("keep(" + k + ")", x, BAD, () -> x.keep(k));
             due.refuses("on(" + k + ")", x, BAD, () -> x.on(k));
         }
+    }
+
+    /** What is kept is the STITCHES themselves: others made in between do not come into them. */
+    private static void keptStitches() {
+        SewnAhead x = Due.cloth("y0-2-");
+        x.sew(1, 3);
+        x.unpick(0);
+        x.keep(0);
+        x.undo(0);
+        x.unpick(2);
+        x.sew(2, 4);
+        x.sew(3, 1);
+        x.keep(1);
+        due.is("on(0)", x.on(0), 2);
+        due.happening("on(0)", x, "-32-");
+        due.is("on(0), undo(1)", x.undo(1), 1);
+        due.happening("on(0), undo(1)", x, "032-");
+        due.is("on(0), undo(0)", x.undo(0), 1);
+        due.happening("on(0), undo(0)", x, "0-2-");
+        due.is("on(1)", x.on(1), 3);
+        due.happening("on(1)", x, "0-41");
+        due.is("on(1), undo(1)", x.undo(1), 2);
+        due.happening("on(1), undo(1)", x, "0---");
+        due.is("on(1), undo(0)", x.undo(0), 1);
+        due.happening("on(1), undo(0)", x, "0-2-");
     }
 
     private static void keptEnds() {
