@@ -64,6 +64,11 @@ public final class EdgesPlansTest {
         leastIs(Due.cloth("y--- l01"), 1, 1, 0, 6, 6);
         leastIs(Due.cloth("y-0- l12 k01 k02"), 2, 2, 6, 5, 2);
         leastIs(Due.cloth("y11-- k11 g10"), 1, 3, 5, 5, 6, 1);
+        due.sentence("PLANS, with no LAW and with all eight");
+        leastIs(Due.cloth("y--"), 0, 0, 0, 6);
+        leastIs(Due.cloth("y-- b12 b13 b14 k12 k13 k14 k23 l01"), 1, 1, 0, 6);
+        leastIs(Due.cloth("y0- b12 b13 b14 k12 k13 k14 k23 k01"), 1, 1, 5, 1);
+        avertIs(Due.cloth("y01 b12 b13 b14 k12 k13 k14 k23 k01"), 4, 5, 6);
         due.sentence("PLANS (aside): a ROW of CHANGES, whatever STITCHES there are");
         leastIs(Due.full("y0-"), 4, 1, 6, 4);
         leastIs(Due.full("y0- b02 g04"), 2, 1, 5, 2);
@@ -268,6 +273,14 @@ public final class EdgesPlansTest {
         judgeIs(Due.cloth("y0---- l01 e13 g04 s42"), 0, 31, 5, 6, 6, 0, 6);
         judgeIs(Due.cloth("y0---- l01 e13 g04 s42"), 0, 15, 5, 6, 6, 3, 6);
         judgeIs(Due.full("y0-"), 0, 3, 6, 4);
+        SewnAhead sewn = Due.cloth("y--- b01 k02");
+        sewn.sew(0, 0);
+        judgeIs(sewn, 2, 7, 6, 1, 2);
+        Due.write(sewn, 1, "y444 b44");
+        sewn.fault(1);
+        judgeIs(sewn, 1, 3, 6, 1, 6);
+        sewn.undo(0);
+        judgeIs(sewn, 0, 6, 6, 1, 2);
     }
 
     private static void judgeRefused() {

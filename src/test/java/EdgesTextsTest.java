@@ -325,6 +325,15 @@ public final class EdgesTextsTest {
             due.is("count(0)", x.count(0), i + 2);
             due.is("count(1)", x.count(1), 0);
         }
+        due.sentence("11 cloth: none of the LAWS that were there before");
+        SewnAhead bars = Due.cloth("y01b01k01b01k01b01k01b01k01");
+        due.is("broken(), eight LAWS", bars.broken(), 255);
+        Due.write(bars, 1, "y01");
+        bars.cloth(1);
+        due.is("broken(), no LAWS", bars.broken(), 0);
+        due.is("least(0, 0, 0), no LAWS", bars.least(0, 0, 0), 0);
+        due.is("unpick(0), no LAWS", bars.unpick(0), 0);
+        due.is("count(5)", bars.count(5), 0);
         due.sentence("11 cloth: (anew: no STITCHES; kept CLOTHS go)");
         SewnAhead x = Due.cloth("y0-2-4 l01" + EIGHT.substring(3));
         x.unpick(4);
@@ -346,6 +355,12 @@ public final class EdgesTextsTest {
         due.is("end(0, 2): no STITCHES", x.end(0, 2), 4);
         due.is("cloth(1), the same TEXT", x.cloth(1), 2);
         due.tells("law(0, 2), as in the TEXT", x, 4, () -> x.law(0, 2));
+        Due.write(x, 2, "y-3");
+        x.unpick(1);
+        x.can(0);
+        due.is("cloth(2), behind STITCHES and a look aside", x.cloth(2), 2);
+        due.is("count(2)", x.count(2), 0);
+        due.is("undo(1)", x.undo(1), SewnAhead.BAD);
         due.is("text(1, 0), a TEXT that goes leaves the CLOTH", x.text(1, 0), 0);
         due.happening("text(1, 0)", x, "-3");
     }

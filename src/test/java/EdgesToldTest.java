@@ -24,7 +24,8 @@ public final class EdgesToldTest {
         due.sentence("36 asked: 0 before");
         due.is("asked()", new SewnAhead().asked(), 0);
         due.is("asked(), a CLOTH alone", Due.cloth("y01 b01").asked(), 0);
-        due.sentence("36 asked: What the latest lay(), at(), mean(), year(), law(), happens(), broken(), judge(), forged() told");
+        due.sentence("36 asked: What the latest lay(), at(), mean(), year(), law(), happens(), broken(), judge(), "
+                + "forged() told");
         SewnAhead x = Due.cloth("y034 b34 l01");
         x.row(0, 1);
         tells(x, "lay", 0, z -> z.lay(0, 0, MIN));

@@ -198,6 +198,12 @@ public final class EdgesWasThereTest {
         forgedIs(Due.cloth("y--"), 0, NONE, 0, 1);
         forgedIs(Due.cloth("y0---- l00"), 5, 1, 0, 0, 0, 0, 0);
         forgedIs(Due.cloth("y00000 g00"), 6, 0, 0, 0, 0, 0, 0);
+        due.sentence("33 forged: what is BROKEN does not bear on it");
+        SewnAhead behind = Due.cloth("y0- b01");
+        behind.least(4, 1, 0);
+        forgedIs(behind, 1, 1, 0, 1);
+        behind.odds(0, 0);
+        forgedIs(behind, 1, 0, NONE, NONE);
         due.sentence("33 forged: the YEAR of the first");
         forgedIs(Due.cloth("y0---4"), 1, 4, 0, NONE, NONE, NONE, NONE);
         forgedIs(Due.cloth("y0---4"), 1, 0, NONE, NONE, NONE, NONE, 4);
